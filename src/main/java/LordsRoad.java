@@ -13,6 +13,8 @@ public final class LordsRoad {
     private static final int MOST_TAPE = 600;
     private static final int MOST_LOOKS = 2000;
     private static final int NEVER_ARRIVES = 100;
+    /** Above all yields, costs and weights that a row can have. */
+    private static final int BEYOND_ALL = 2000000000;
 
     private static final int MOST_KNOTS = 96;
     private static final int MOST_OPEN = 8;
@@ -1506,8 +1508,8 @@ public final class LordsRoad {
                 int weight = again ? weightOfMoved() : 0;
                 boolean lighter = weight < bestWeight;
                 if (weight <= bestWeight && run.isBetterThan(
-                        lighter ? Integer.MAX_VALUE : bestYields,
-                        lighter ? Integer.MAX_VALUE : bestCost)) {
+                        lighter ? BEYOND_ALL : bestYields,
+                        lighter ? BEYOND_ALL : bestCost)) {
                     bestWeight = weight;
                     keepRow();
                 }
@@ -1527,7 +1529,7 @@ public final class LordsRoad {
         }
 
         private void begin() {
-            bestWeight = Integer.MAX_VALUE;
+            bestWeight = BEYOND_ALL;
             for (int k = 0; k < lordCount; k++) {
                 processions[k].day = first[k];
             }

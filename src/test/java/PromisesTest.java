@@ -39,6 +39,9 @@ public final class PromisesTest {
         anew();
         known();
         lookAndCount();
+        textBehindText();
+        runBehindRun();
+        fullRoad();
         System.out.println(checks + " checks, " + wrong + " wrong");
         if (wrong != 0) {
             System.exit(1);
@@ -192,6 +195,7 @@ public final class PromisesTest {
         fails("march 8\r;", 1, 7);
         fails("marches 8;", 1, 0);
         fails("mar 8;", 1, 0);
+        fails("roomz 1;", 1, 0);
         fails(";", 1, 0);
         fails("march 8;;", 1, 8);
         fails("march;", 1, 5);
@@ -242,6 +246,8 @@ public final class PromisesTest {
         reads("room not not-- -1<(2>3)and 4or 5;", 1, 14);
         reads("room 1<2 and 3<4 or not 5<6;", 1, 12);
         reads("room (1<2)<3;", 1, 5);
+        reads("room (1<2)+(3<4);", 1, 7);
+        reads("room 1+(not 1);", 1, 4);
         reads("yield 1,(2),-3;", 1, 4);
         reads("room 1<=2;fine 1<>2;attend 1>=2;", 3, 9);
     }
@@ -453,6 +459,7 @@ public final class PromisesTest {
         due("lord -1", x.wants(-1, 0, 0), NONE);
         due("late -1", x.wants(0, 3, -1), NONE);
         due("late 101", x.wants(0, 3, 101), NONE);
+        due("late 0", x.wants(0, 3, 0), 0);
         x.year(50);
         tell(x, "attend rank=4; bearers hours*100+guns; room worth*10+women+house; fine late*90+year;");
         due("attends", x.wants(0, 0, 0), 1);
@@ -521,6 +528,7 @@ public final class PromisesTest {
         worth("not (0 and 1/0)", 0);
         worth("1000*1000*1000*1000/1000/1000/1000", 1000);
         worth("(1000*1000*1000*1000+1)/1000/1000/1000", 0);
+        worth("(1000*1000*1000*999+1000*1000*1000)/1000/1000/1000", 1000);
         worth("5+(0-1000*1000*1000*1000)/1000/1000/1000+1000", 5);
         worth("5+(-1000*1000*1000*1000)/1000/1000/1000+1000", 5);
         worth("5+0*(0-1000*1000*1000*1000-1)", 0);
@@ -550,8 +558,14 @@ public final class PromisesTest {
         due("the first goes before the second", x.ahead(1, 2), 2);
         tell(x, "yield 1,1/0,0-men;");
         due("the third, and an error is 0", x.ahead(0, 2), 2);
+        tell(x, "yield 1,1,0-men;");
+        tell(x, "yield 1,worth,rank;");
+        due("the second alone differs for 2", x.ahead(2, 1), 1);
+        due("the third", x.ahead(0, 1), 1);
         tell(x, "yield rank;");
-        due("one alone again", x.ahead(0, 2), 0);
+        due("one alone again", x.ahead(2, 0), 0);
+        tell(x, "room 1;");
+        due("and without a line", x.ahead(2, 0), 0);
     }
 
     private static void set() {
@@ -587,6 +601,7 @@ public final class PromisesTest {
         due("for two coins each", x.end(0, 4), 24);
         due("nothing is left for the second", x.end(1, 5), 8);
         due("of all", x.judge(1), 40);
+        x.set(1, 0);
         due("given on way 2", x.given(2, 0), 3);
         due("given on way 1", x.given(1, 0), 5);
         x.set(1, 1);
@@ -603,6 +618,13 @@ public final class PromisesTest {
         due("no station", x.given(3, 0), NONE);
         tell(x, "pay 99;");
         due("pay 99", x.end(0, 4), 12 * 99);
+        tell(x, "bearers 2;");
+        x.set(1, 0);
+        due("two and two of five", x.given(1, 0), 4);
+        due("on one day", x.given(1, 1), 4);
+        due("two and one of three", x.given(2, 1), 3);
+        due("one hired", x.end(1, 5), 1);
+        x.set(1, 1);
         tell(x, "pay 0;attend house=1;");
         due("pay 0", x.end(1, 4), 0);
         due("who attends not has no run", x.end(0, 5), NONE);
@@ -825,6 +847,17 @@ public final class PromisesTest {
         due("no yield is worth a fine", y.plan(), 0);
         due("lord 0 waits", y.row(1), 1);
         due("lord 1 goes", y.row(2), 0);
+        planByFine();
+    }
+
+    private static void planByFine() {
+        LordsRoad x = chain(8);
+        x.lord(3, 0, 0, 1, 0, 0);
+        x.window(0, 0, 3, 0);
+        tell(x, "fine 100-late;");
+        due("plan by fine", x.plan(), 0);
+        due("the fine decides", x.row(1), 3);
+        due("judged", x.judge(1), 115);
     }
 
     private static void bounds() {
@@ -969,5 +1002,103 @@ public final class PromisesTest {
         for (int what = 0; what < counts.length; what++) {
             due("count(" + what + ")", x.count(what), counts[what]);
         }
+    }
+
+    /** Nothing of a text that was read, or failed, shows in the next one. */
+    private static void textBehindText() {
+        LordsRoad x = chain(7);
+        x.lord(3, 4, 30, 259, 6, 8);
+        String longest = "room 1" + "+1".repeat(47) + ";";
+        for (int k = 0; k < 6; k++) {
+            due("a long text again", tell(x, longest), 1);
+            due("worked out whole", x.wants(0, 2, 0), 48);
+        }
+        tell(x, "fine 5;");
+        tell(x, "attend 0;");
+        tell(x, "march 3;");
+        due("no fine again", x.wants(0, 3, 1), 0);
+        due("attends again", x.wants(0, 0, 0), 1);
+        due("a text that ends in a bracket", tell(x, "room 9*(8-(7+"), NONE);
+        due("and a good one", tell(x, "room 2;"), 1);
+        due("are nothing to one another", x.wants(0, 2, 0), 2);
+        due("told in a bad text", tell(x, "pay 3; hold"), NONE);
+        due("may be told in the next", tell(x, "hold 3; pay 3;"), 2);
+    }
+
+    /** Nothing of a run shows in the next one, and each change is seen by it. */
+    private static void runBehindRun() {
+        LordsRoad x = chain(8);
+        x.lord(3, 0, 0, 1, 0, 0);
+        tell(x, "fine year; attend year<5;");
+        x.set(0, 0);
+        due("arrives", x.end(0, 0), 2);
+        x.year(4);
+        due("the fine of year 4", x.end(0, 3), 4);
+        x.year(5);
+        due("attends no more", x.end(0, 0), NONE);
+        x.year(0);
+        due("attends again", x.judge(2), 1);
+        x.lord(2, 0, 0, 1, 0, 0);
+        due("a new lord is at home", x.night(1, 0, 0), 2);
+        due("and known there", x.known(1, 2, 7, 1), 2);
+        x.window(0, 4, 4, 30);
+        x.window(1, 6, 6, 30);
+        due("planned", x.plan(), 0);
+        due("seen at once", x.end(0, 0), 6);
+        due("of both", x.judge(3), 7);
+        x.window(0, 7, 7, 30);
+        x.anew(0);
+        due("seen anew", x.end(0, 0), 9);
+        x.window(1, 5, 5, 30);
+        due("given, asked first behind a plan", x.plan() + x.given(3, 0), 0);
+        x.station(3, 8, 1, 999, 50, true);
+        due("nothing was given on a new way", x.given(4, 1), 0);
+
+        LordsRoad held = new LordsRoad();
+        held.station(0, 8, 1, 999, 100, true);
+        held.station(1, 8, 1, 999, 50, false);
+        held.lord(2, 0, 0, 10, 1, 0);
+        held.set(0, 0);
+        held.height(2, 0, 97, 50);
+        due("held when the days end", held.night(0, 99, 3), 2);
+        due("one bearer", held.given(2, 1), 1);
+        held.height(2, 0, 99, 0);
+        due("held anew", held.end(0, 0), 4);
+        due("three days from day 0 on", held.night(0, 0, 3), 3);
+        held.set(0, NONE);
+        due("no bearer", held.given(2, 1), 0);
+    }
+
+    /** Twelve stations of an hour each, six lords, the last one ahead of all. */
+    private static void fullRoad() {
+        LordsRoad x = new LordsRoad();
+        for (int k = 0; k < 11; k++) {
+            x.station(k, 1, 1, 999, 50, false);
+        }
+        for (int k = 0; k < 6; k++) {
+            due("lord " + k, x.lord(11, 9 - k, 0, 1, 0, 0), k);
+            x.set(k, 0);
+            x.window(k, 0, 1, 30);
+        }
+        for (int k = 0; k < 6; k++) {
+            due("night of lord " + k, x.night(k, 0, 0), 8 - k);
+            due("yields of lord " + k, x.night(k, 0, 2), k == 5 ? 0 : 1);
+        }
+        due("on day 1 all come to the city", x.judge(3), 1);
+        due("six", x.judge(2), 6);
+        tell(x, "march 24;");
+        due("in one day", x.judge(3), 0);
+        tell(x, "march 11;");
+        due("the whole way in a day", x.judge(3), 0);
+        tell(x, "march 8;yield house;");
+        due("the first one ahead now", x.night(0, 0, 0), 3);
+        due("the last one behind", x.night(5, 0, 0), 8);
+        due("64 rows", x.plan() >= 0 ? x.row(0) : NONE, 64);
+        due("best: each but one has to yield or to wait", x.judge(0), 4);
+        int waits = x.row(1);
+        x.set(0, NONE);
+        due("one to set", x.anew(0), 1);
+        due("the same as in the plan", x.row(1), waits);
+        due("64 rows again", x.row(0), 64);
     }
 }
