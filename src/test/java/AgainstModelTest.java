@@ -10,6 +10,8 @@ public final class AgainstModelTest {
     private static final String[] PIECES = {"march ", "news ", "hold ", "pay ", "attend ", "bearers ", "room ", "fine ",
         "yield ", "year", "rank", "late", "house", "not ", " and ", " or ", "(", ")", "<", "=", ">", "+", "-", "*", "/",
         "%", ";", ",", "1", "0", "7", "99", "100000", " ", "\n", "\t", "x", "A"};
+    /** So that the calls of the last turn are still among the 512 that the document speaks of. */
+    private static final int MOST_MADE = 470;
     private static int wrong = 0;
     private static int calls = 0;
 
@@ -63,7 +65,7 @@ public final class AgainstModelTest {
 
     private void runAll() {
         if (seed % 4 == 3) {
-            for (int k = 0; k < 20; k++) {
+            for (int k = 0; k < 20 && made < MOST_MADE; k++) {
                 tell(garbledText());
             }
             return;
@@ -72,7 +74,7 @@ public final class AgainstModelTest {
         if (random.nextInt(3) != 0) {
             tell(wholeText());
         }
-        for (int k = 0; k < 60 && made < 500; k++) {
+        for (int k = 0; k < 60 && made < MOST_MADE; k++) {
             anyCall();
         }
     }
