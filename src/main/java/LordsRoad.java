@@ -107,16 +107,16 @@ public final class LordsRoad {
         lords = new Lord[MOST_LORDS];
         processions = new Procession[MOST_LORDS];
         for (int k = 0; k < MOST_LORDS; k++) {
-            lords[k] = new Lord(k);
+            lords[k] = new Lord(k, road.city);
             processions[k] = new Procession(lords[k]);
         }
-        run = new Run(road, processions);
+        inForce = new Edicts();
+        inForce.clear();
+        draft = new Edicts();
+        run = new Run(road, processions, inForce);
         search = new Search(run, processions);
         tape = new byte[MOST_TAPE];
-        reader = new Reader(tape);
-        inForce = new Edicts();
-        draft = new Edicts();
-        inForce.clear();
+        reader = new Reader(tape, draft);
         latestPlace = NONE;
         stale = true;
     }
@@ -168,18 +168,18 @@ public final class LordsRoad {
     }
 
     public int station(int next, int hours, int houses, int duty, int shut, boolean gate) {
-        if (road.size == MOST_STATIONS || !road.has(next) || !within(hours, 1, 20)
+        if (road.size >= MOST_STATIONS || !road.has(next) || !within(hours, 1, 20)
                 || !within(houses, 1, 3) || !within(duty, 0, 999) || !within(shut, 1, 100)) {
             return NONE;
         }
         Station fresh = road.stations[road.size];
-        fresh.next = next;
+        fresh.next = road.stationOf(next);
         fresh.hours = hours;
         fresh.houses = houses;
         fresh.duty = duty;
         fresh.shut = shut;
         fresh.gate = gate;
-        fresh.hoursToCity = road.stations[next].hoursToCity + hours;
+        fresh.hoursToCity = fresh.next.hoursToCity + hours;
         stale = true;
         return road.size++;
     }
@@ -189,7 +189,7 @@ public final class LordsRoad {
                 || !within(h, 0, 99)) {
             return false;
         }
-        int[] heights = road.stations[station].heights;
+        int[] heights = road.stationOf(station).heights;
         for (int day = from; day <= to; day++) {
             heights[day] = h;
         }
@@ -198,18 +198,18 @@ public final class LordsRoad {
     }
 
     public int between(int a, int b) {
-        return road.has(a) && road.has(b) ? road.hoursBetween(a, b) : NONE;
+        return road.has(a) && road.has(b) ? road.stationOf(a).hoursTo(road.stationOf(b)) : NONE;
     }
 
     public int lord(int home, int rank, int worth, int men, int guns, int women) {
-        if (lordCount == MOST_LORDS || !road.hasWay(home) || !within(rank, 0, 9)
+        if (lordCount >= MOST_LORDS || !road.hasWay(home) || !within(rank, 0, 9)
                 || !within(worth, 0, 999) || !within(men, 1, 999)
                 || !within(guns, 0, 99) || !within(women, 0, 99)) {
             return NONE;
         }
         Lord fresh = lords[lordCount];
-        fresh.home = home;
-        fresh.hours = road.stations[home].hoursToCity;
+        fresh.home = road.stationOf(home);
+        fresh.hours = fresh.home.hoursToCity;
         fresh.rank = rank;
         fresh.worth = worth;
         fresh.men = men;
@@ -346,9 +346,9 @@ public final class LordsRoad {
         }
         runRowAtHand();
         if (what == 0) {
-            return road.stations[station].givenInAll;
+            return road.stationOf(station).givenInAll;
         }
-        return what == 1 ? road.stations[station].givenMost : NONE;
+        return what == 1 ? road.stationOf(station).givenMost : NONE;
     }
 
     public int plan() {
@@ -378,7 +378,7 @@ public final class LordsRoad {
         }
         runRowAtHand();
         int[] places = processions[lord].nightPlaces;
-        int latest = road.latestKnown(places, station, day, inForce.news);
+        int latest = road.latestKnown(places, road.stationOf(station), day, inForce.news);
         if (what == 0 || latest == NONE) {
             return latest;
         }
@@ -389,10 +389,10 @@ public final class LordsRoad {
         if (!road.has(station)) {
             throw new IndexOutOfBoundsException("no such station");
         }
-        Station one = road.stations[station];
+        Station one = road.stationOf(station);
         switch (what) {
             case 0:
-                return one.next;
+                return one.next.number;
             case 1:
                 return one.hours;
             case 2:
@@ -465,10 +465,11 @@ public final class LordsRoad {
         stale = true;
     }
 
-    /** A station with its way toward the city; the city's own way stays empty. */
+    /** A station with its way toward the city; the city's own way stays empty and leads to itself. */
     private static final class Station {
+        final int number;
         final int[] heights = new int[DAYS];
-        int next;
+        Station next;
         int hours;
         int houses;
         int duty;
@@ -478,6 +479,31 @@ public final class LordsRoad {
         int givenToday;
         int givenInAll;
         int givenMost;
+
+        Station(int number) {
+            this.number = number;
+        }
+
+        boolean isCity() {
+            return number == CITY;
+        }
+
+        /** Every next is a lesser station, so the greater of two unlike ones always has to step. */
+        int hoursTo(Station goal) {
+            Station one = this;
+            Station other = goal;
+            int sum = 0;
+            for (int k = 0; k < 2 * MOST_STATIONS && one != other; k++) {
+                if (one.number > other.number) {
+                    sum += one.hours;
+                    one = one.next;
+                } else {
+                    sum += other.hours;
+                    other = other.next;
+                }
+            }
+            return sum;
+        }
 
         boolean isShutOn(int day) {
             return day >= 0 && day < DAYS && heights[day] >= shut;
@@ -500,12 +526,14 @@ public final class LordsRoad {
 
     /** All stations; number 0 is the city. */
     private static final class Road {
+        final Station city = new Station(CITY);
         final Station[] stations = new Station[MOST_STATIONS];
         int size = 1;
 
         Road() {
             for (int k = 0; k < MOST_STATIONS; k++) {
-                stations[k] = new Station();
+                stations[k] = k == CITY ? city : new Station(k);
+                stations[k].next = city;
             }
         }
 
@@ -517,26 +545,14 @@ public final class LordsRoad {
             return station > CITY && station < size;
         }
 
-        /** Every next is a lesser station, so the greater of two unlike ones always has to step. */
-        int hoursBetween(int a, int b) {
-            int one = a;
-            int other = b;
-            int hours = 0;
-            for (int k = 0; k < 2 * MOST_STATIONS && one != other; k++) {
-                if (one > other) {
-                    hours += stations[one].hours;
-                    one = stations[one].next;
-                } else {
-                    hours += stations[other].hours;
-                    other = stations[other].next;
-                }
-            }
-            return hours;
+        /** The city for a number that no station has. */
+        Station stationOf(int number) {
+            return has(number) && number < MOST_STATIONS ? stations[number] : city;
         }
 
-        int latestKnown(int[] places, int station, int day, int news) {
+        int latestKnown(int[] places, Station station, int day, int news) {
             for (int night = Math.min(day, DAYS - 1); night >= 0; night--) {
-                if (hoursBetween(places[night], station) <= (day - night) * news) {
+                if (stationOf(places[night]).hoursTo(station) <= (day - night) * news) {
                     return night;
                 }
             }
@@ -559,7 +575,7 @@ public final class LordsRoad {
     /** A lord as he was told, his day of the row at hand, and what the edicts want of him. */
     private static final class Lord {
         final int number;
-        int home;
+        Station home;
         int hours;
         int rank;
         int worth;
@@ -576,8 +592,9 @@ public final class LordsRoad {
         int bearers;
         int room;
 
-        Lord(int number) {
+        Lord(int number, Station home) {
             this.number = number;
+            this.home = home;
         }
 
         int fact(int name, int ofYear, int late) {
@@ -939,8 +956,9 @@ public final class LordsRoad {
         private final Tokens tokens;
         /** Signs and open brackets whose right side is not yet whole. */
         private final int[] waiting = new int[MOST_CODE];
-        private final boolean[] compared = new boolean[MOST_OPEN + 1];
         private Edicts into;
+        /** A bit for each open bracket, and the lowest for none: whether a comparison stands there. */
+        private int compared;
         private int due;
         private int told;
         private int word;
@@ -950,8 +968,9 @@ public final class LordsRoad {
         int fault;
         int faultPlace;
 
-        Reader(byte[] text) {
+        Reader(byte[] text, Edicts into) {
             tokens = new Tokens(text);
+            this.into = into;
         }
 
         void read(int length, Edicts edicts) {
@@ -1047,7 +1066,7 @@ public final class LordsRoad {
             into.begin(word);
             waitingCount = 0;
             open = 0;
-            compared[0] = false;
+            compared = 0;
             notMayStand = true;
             due = SIDE_DUE;
         }
@@ -1066,7 +1085,7 @@ public final class LordsRoad {
             } else if (kind == OPEN) {
                 putOff(OPEN);
                 open++;
-                compared[open] = false;
+                noteCompared(false);
                 notMayStand = true;
             } else if (kind == NOT || kind == MINUS) {
                 into.knots++;
@@ -1094,7 +1113,7 @@ public final class LordsRoad {
             int bond = bondOf(kind);
             if (bond == 0) {
                 takeEndOfSide(kind);
-            } else if (bond == COMPARING && compared[open]) {
+            } else if (bond == COMPARING && isCompared()) {
                 fail(OUT_OF_PLACE);
             } else if (isTooMuch(kind)) {
                 fail(TOO_MUCH);
@@ -1103,11 +1122,19 @@ public final class LordsRoad {
                 writeWaiting(bond);
                 putOff(kind);
                 if (bond <= COMPARING) {
-                    compared[open] = bond == COMPARING;
+                    noteCompared(bond == COMPARING);
                 }
                 notMayStand = bond < COMPARING;
                 due = SIDE_DUE;
             }
+        }
+
+        private boolean isCompared() {
+            return (compared & 1 << open) != 0;
+        }
+
+        private void noteCompared(boolean is) {
+            compared = is ? compared | 1 << open : compared & ~(1 << open);
         }
 
         private void takeEndOfSide(int kind) {
@@ -1186,7 +1213,7 @@ public final class LordsRoad {
         final int[] nightCosts = new int[DAYS];
         /** The day to set out; NONE if he has no run. */
         int day = NONE;
-        int at;
+        Station at;
         int held;
         int yields;
         int cost;
@@ -1199,6 +1226,7 @@ public final class LordsRoad {
 
         Procession(Lord lord) {
             this.lord = lord;
+            at = lord.home;
         }
 
         void begin() {
@@ -1215,23 +1243,23 @@ public final class LordsRoad {
         }
 
         boolean isAskedOn(int today) {
-            return day != NONE && day <= today && at != CITY;
+            return day != NONE && day <= today && !at.isCity();
         }
 
-        boolean failsAt(int gate) {
-            return (gatesLookedAt & 1 << gate) == 0
+        boolean failsAt(Station gate) {
+            return (gatesLookedAt & 1 << gate.number) == 0
                     && (lord.guns > lord.gunPapers || lord.women > lord.womenPapers);
         }
 
-        void lookedAt(int gate) {
-            gatesLookedAt |= 1 << gate;
+        void lookedAt(Station gate) {
+            gatesLookedAt |= 1 << gate.number;
         }
 
         int stateAt(int place) {
             if (place == CITY) {
                 return 2;
             }
-            return place == lord.home ? 0 : 1;
+            return place == lord.home.number ? 0 : 1;
         }
 
         int lateness() {
@@ -1241,7 +1269,7 @@ public final class LordsRoad {
 
         void keepNight(int today) {
             if (today >= 0 && today < DAYS) {
-                nightPlaces[today] = at;
+                nightPlaces[today] = at.number;
                 nightYields[today] = yields;
                 nightHeld[today] = held;
                 nightCosts[today] = cost;
@@ -1253,7 +1281,7 @@ public final class LordsRoad {
     private static final class Run {
         private final Road road;
         private final Procession[] processions;
-        private final int[] order = new int[MOST_LORDS];
+        private final Procession[] order = new Procession[MOST_LORDS];
         private Edicts edicts;
         private int lordCount;
         private int ofYear;
@@ -1263,9 +1291,13 @@ public final class LordsRoad {
         int arrived;
         int lastArrival;
 
-        Run(Road road, Procession[] processions) {
+        Run(Road road, Procession[] processions, Edicts edicts) {
             this.road = road;
             this.processions = processions;
+            this.edicts = edicts;
+            for (int k = 0; k < MOST_LORDS; k++) {
+                order[k] = processions[k];
+            }
         }
 
         /** Works out once what stays the same for every row of days. */
@@ -1282,16 +1314,15 @@ public final class LordsRoad {
             }
         }
 
+        /** Those of lesser numbers are in order by now. */
         private void putInOrder(int lord) {
+            Procession one = processions[lord];
             int place = lord;
-            for (int k = lord - 1; k >= 0; k--) {
-                if (!edicts.putsAhead(processions[lord].lord, processions[order[k]].lord, ofYear)) {
-                    break;
-                }
-                order[k + 1] = order[k];
-                place = k;
+            for (int k = lord; k > 0 && edicts.putsAhead(one.lord, order[k - 1].lord, ofYear); k--) {
+                order[k] = order[k - 1];
+                place = k - 1;
             }
-            order[place] = lord;
+            order[place] = one;
         }
 
         void keepRecord() {
@@ -1356,9 +1387,8 @@ public final class LordsRoad {
         private void passDay(int day) {
             road.beginDay();
             for (int k = 0; k < lordCount; k++) {
-                Procession one = processions[order[k]];
-                if (one.isAskedOn(day)) {
-                    ask(one, day);
+                if (order[k].isAskedOn(day)) {
+                    ask(order[k], day);
                 }
             }
         }
@@ -1369,42 +1399,41 @@ public final class LordsRoad {
                 charge(one, one.lord.room);
                 return;
             }
-            int from = one.at;
-            int farthest = farthestFor(one, day);
-            int goal = farthestHouse(one, farthest);
+            Station from = one.at;
+            Station farthest = farthestFor(one, day);
+            Station goal = farthestHouse(one, farthest);
             if (goal != farthest) {
                 one.yields++;
                 yields++;
             }
-            if (goal == from && road.stations[from].isShutOn(day)) {
+            if (goal == from && from.isShutOn(day)) {
                 one.excused++;
             }
             travel(one, goal);
             spendNight(one, day);
         }
 
-        private int farthestFor(Procession one, int day) {
-            int place = one.at;
+        private Station farthestFor(Procession one, int day) {
+            Station place = one.at;
             int hours = 0;
-            for (int k = 0; k < MOST_STATIONS && place != CITY; k++) {
-                Station here = road.stations[place];
-                hours += here.hours;
-                if (hours > edicts.march || here.isShutOn(day)
-                        || here.gate && place != one.at && one.failsAt(place)) {
+            for (int k = 0; k < MOST_STATIONS && !place.isCity(); k++) {
+                hours += place.hours;
+                if (hours > edicts.march || place.isShutOn(day)
+                        || place.gate && place != one.at && one.failsAt(place)) {
                     return place;
                 }
-                place = here.next;
+                place = place.next;
             }
             return place;
         }
 
         /** Where he is he has his house or his home, so he never goes without. */
-        private int farthestHouse(Procession one, int farthest) {
-            int found = one.at;
-            int place = one.at;
+        private Station farthestHouse(Procession one, Station farthest) {
+            Station found = one.at;
+            Station place = one.at;
             for (int k = 0; k < MOST_STATIONS && place != farthest; k++) {
-                place = road.stations[place].next;
-                if (place == CITY || lodgersAt(place) < road.stations[place].houses) {
+                place = place.next;
+                if (place.isCity() || lodgersAt(place) < place.houses) {
                     found = place;
                 }
             }
@@ -1412,7 +1441,7 @@ public final class LordsRoad {
         }
 
         /** Those not asked yet stand where they lodged; a lord at home lodges in no house. */
-        private int lodgersAt(int station) {
+        private int lodgersAt(Station station) {
             int lodgers = 0;
             for (int k = 0; k < lordCount; k++) {
                 if (processions[k].at == station && processions[k].lord.home != station) {
@@ -1422,19 +1451,18 @@ public final class LordsRoad {
             return lodgers;
         }
 
-        private void travel(Procession one, int goal) {
+        private void travel(Procession one, Station goal) {
             for (int k = 0; k < MOST_STATIONS && one.at != goal; k++) {
-                Station way = road.stations[one.at];
-                int hired = one.lord.bearers - way.giveBearers(one.lord.bearers);
+                int hired = one.lord.bearers - one.at.giveBearers(one.lord.bearers);
                 one.hired += hired;
                 charge(one, hired * edicts.pay);
-                one.at = way.next;
+                one.at = one.at.next;
                 passGate(one);
             }
         }
 
         private void passGate(Procession one) {
-            if (road.stations[one.at].gate) {
+            if (one.at.gate) {
                 if (one.failsAt(one.at)) {
                     one.held = edicts.hold;
                 }
@@ -1443,7 +1471,7 @@ public final class LordsRoad {
         }
 
         private void spendNight(Procession one, int day) {
-            if (one.at == CITY) {
+            if (one.at.isCity()) {
                 one.arrival = day;
                 arrived++;
                 lastArrival = day;
